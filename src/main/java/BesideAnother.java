@@ -1062,7 +1062,8 @@ public final class BesideAnother {
             if (!allOf(depth)) {
                 return false;
             }
-            while (at < end && takes('|')) {
+            while (at < end && signs[at] == '|') {
+                at++;
                 if (!allOf(depth)) {
                     return false;
                 }
@@ -1075,7 +1076,8 @@ public final class BesideAnother {
             if (!compared(depth)) {
                 return false;
             }
-            while (at < end && takes('&')) {
+            while (at < end && signs[at] == '&') {
+                at++;
                 if (!compared(depth)) {
                     return false;
                 }
@@ -1115,7 +1117,8 @@ public final class BesideAnother {
 
         private boolean denied(int depth) {
             int many = 0;
-            while (at < end && takes('!')) {
+            while (at < end && signs[at] == '!') {
+                at++;
                 many++;
             }
             if (!thing(depth)) {
