@@ -790,6 +790,9 @@ public final class Promises {
             due("bars", x.bars(none[0], none[1]), -1);
             due("least", x.least(none[0], none[1]), -1);
         }
+        x = books("1", "1", "a&b");
+        due("needs all others", x.needs(2, 0), 3);
+        due(x, "least", x.least(2, 0), 2, 3, 1);
         // a BOOK that counts itself: it is not among the others
         x = books("a", "n", "1");
         due("needs", x.needs(0, 0), 6);
@@ -828,6 +831,8 @@ public final class Promises {
         due("either does", x.knot(0), 0);
         x = books("1", "c", "d", "b", "f", "e", "h", "g");
         due(x, "of as short the least row", x.knot(0), 2, 4, 5);
+        x = books("b", "c", "d", "e", "f", "g", "h", "i", "j", "k", "l", "a");
+        due(x, "all twelve", x.knot(0), 12, 0, 1, 2, 3, 4, 5, 6, 7, 8, 9, 10, 11);
     }
 
     private static void hold() {
@@ -937,6 +942,17 @@ public final class Promises {
         due(x, "both", x.keeps(0, 4 + 16), 3, 1 + 2 + 8);
         x.set(1, 0, 1);
         due("ROOM for one", x.keeps(0, 1), -2);
+        x.set(1, 0, 2);
+        due(x, "ROOM for two", x.keeps(0, 3), 2, 3);
+        x = books("b", "c", "a");
+        due(x, "ROOM for three", x.keeps(1, 1), 3, 7);
+        x.set(1, 1, 2);
+        due("no ROOM for three", x.keeps(1, 1), -2);
+        // of as few the least; the fewest, though more have a lesser number
+        x = books("a", "b", "a|b");
+        due(x, "of as few the least", x.keeps(0, 4), 1, 1);
+        x = books("b", "a", "c", "a&b|c");
+        due(x, "the fewest", x.keeps(0, 8), 1, 4);
         // one that is open at first, but settles shut and takes another with it
         x = books("n=1&a", "!a|c", "0");
         due(x, "keeps", x.keeps(0, 3), 1, 1);
@@ -1047,7 +1063,11 @@ public final class Promises {
         x.set(0, 6, 1);
         due("reach", x.reach(), -3);
         due("lost: without g there are fewer", x.lost(), 64);
-        acts(x, SHUT + 6);
+        acts(x, 0);
+        due("lost: behind a there is g still", x.lost(), -3);
+        due(x, "one TABLE behind a search that was too much", x.keeps(2, 63), 0, 0);
+        due(x, "one TABLE", x.comes(2), 1 + 6 + 15 + 20, 63, 3);
+        acts(x, SHUT, SHUT + 6);
         due("reach", x.reach(), states);
         // one TABLE alone never has so many
         BesideAnother y = books("1", "1", "1", "1", "1", "1", "1", "1", "1", "1", "1", "1");
@@ -1084,7 +1104,11 @@ public final class Promises {
         due(x, "3 more: just 5000", x.reach(), 5000, 4095, 8);
         due(x, "soonest", x.soonest(11), 6, 0, 1, 2, 3, 4, 11);
         due(x, "free", x.free(), 1);
+        due("keeps: g is not for TABLE 2", x.keeps(2, 64), -2);
         book(x, 8, "t=0&d+e+f=1&!(a|b|c|g|j|k|l)|t=2&a&b&c&d&e");
+        due("3 more: too many", x.reach(), -3);
+        due(x, "keeps: i is, beside a .. e", x.keeps(2, 256), 0, 0);
+        due("keeps: g is not", x.keeps(2, 64), -2);
         due("3 more: too many", x.reach(), -3);
         due("soonest", x.soonest(0), -3);
     }
@@ -1176,6 +1200,9 @@ public final class Promises {
         due("READ by none", x.about(3, 3), 0);
         due("READ", x.of(0, 2), 1);
         due("READ", x.of(1, 2), 4);
+        due("READ by how many", x.about(0, 3), 1);
+        due("READ by how many", x.about(1, 3), 0);
+        due("READ by how many", x.about(2, 3), 1);
         due("READ of one told since", x.of(2, 2), 0);
         due("sits", x.of(0, 0), 0);
         due("sits", x.of(1, 0), 2);

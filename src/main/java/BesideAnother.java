@@ -37,7 +37,7 @@ public final class BesideAnother {
 
     private final Text text = new Text();
     private final Tables tables = new Tables();
-    private final Search search = new Search(tables);
+    private final Search search = new Search();
     private final Survey survey = new Survey();
     private final Expression rule = new Expression();
     private final Reader[] readers = new Reader[READERS];
@@ -595,7 +595,7 @@ public final class BesideAnother {
     private void searchTable(int table) {
         search.clear();
         search.seed(0L);
-        search.spread(table, tables.spent());
+        search.spread(tables, table);
     }
 
     /** Tells the BOOKS that come in the search, and the most ACTS: how many states came. */
@@ -665,7 +665,7 @@ public final class BesideAnother {
                 search.seed(tables.settled(with(0L, table, set), table));
             }
         }
-        search.spread(table, tables.spent());
+        search.spread(tables, table);
         search.gather();
         int best = NONE;
         for (int set = 0; set <= tables.all(); set++) {
@@ -718,7 +718,7 @@ public final class BesideAnother {
     private boolean searchFrom(long state) {
         search.clear();
         search.seed(state);
-        return search.spread(NONE, tables.spent());
+        return search.spread(tables, NONE);
     }
 
     public int soonest(int book) {
@@ -1381,15 +1381,10 @@ public final class BesideAnother {
         final int[] depth = new int[STATES];
         final int[] can = new int[STATES];
         int size;
-        private final Tables tables;
         private final int[] slots = new int[SLOTS];
         private final int[] slotBy = new int[STATES];
         private final int[] firstEdge = new int[STATES + 1];
         private final int[] edges = new int[STATES * WAYS];
-
-        Search(Tables tables) {
-            this.tables = tables;
-        }
 
         void clear() {
             for (int i = 0; i < size; i++) {
@@ -1403,7 +1398,8 @@ public final class BesideAnother {
         }
 
         /** Goes on from all seeds, on all TABLES, or by OPEN and SHUT on only one: false if too many states come. */
-        boolean spread(int only, int spent) {
+        boolean spread(Tables tables, int only) {
+            int spent = tables.spent();
             int edge = 0;
             for (int i = 0; i < size && i < STATES; i++) {
                 firstEdge[i] = edge;
