@@ -7,7 +7,14 @@ public final class BesideAnother {
 
     private static final int NOT_SO = -2;
     private static final int TOO_MANY = -3;
+    private static final int MISSING = -3;
     private static final int NO_BOOK = -100;
+
+    // Why an ACT is refused.
+    private static final int OPEN_OR_NOT = -2;
+    private static final int NO_LIMIT = -3;
+    private static final int NO_ROOM = -4;
+    private static final int MAY_NOT = -5;
 
     private static final int BOOKS = 12;
     private static final int TABLES = 3;
@@ -140,7 +147,7 @@ public final class BesideAnother {
             tables.books[i].limit = limit;
             sum += limit;
         }
-        return kind == 3 ? TOO_MANY : sum;
+        return kind == 3 ? MISSING : sum;
     }
 
     /** An entry as its sheet can hold it, put to what a LIMIT can be. */
@@ -1304,19 +1311,19 @@ public final class BesideAnother {
             int book = act % KIND;
             int at = tableOf(state, book);
             if (kind == SHUT) {
-                return at == NONE ? -2 : 0;
+                return at == NONE ? OPEN_OR_NOT : 0;
             }
             int table = kind < SHUT ? kind : kind - HAND;
             if (kind < SHUT ? at != NONE : at == NONE || at == table) {
-                return -2;
+                return OPEN_OR_NOT;
             }
             if (kind < SHUT && (spent >> book & 1) != 0) {
-                return -3;
+                return NO_LIMIT;
             }
             if (Integer.bitCount(on(state, table)) >= room[table]) {
-                return -4;
+                return NO_ROOM;
             }
-            return (mayBy(table, on(state, table)) >> book & 1) == 0 ? -5 : 0;
+            return (mayBy(table, on(state, table)) >> book & 1) == 0 ? MAY_NOT : 0;
         }
 
         /** What is open behind an ACT that is not refused. */
