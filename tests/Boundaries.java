@@ -197,32 +197,10 @@ public final class Boundaries {
         return out.toString();
     }
 
-    private static void text(BesideAnother x, String signs) {
-        x.end(0);
-        for (int i = 0; i < signs.length(); i += 4) {
-            int v = 0;
-            for (int k = i; k < i + 4; k++) {
-                v = v << 8 | (k < signs.length() ? signs.charAt(k) : 0);
-            }
-            x.sign(v);
-        }
-        x.end(signs.length());
-    }
-
-    private static int book(BesideAnother x, int i, String signs) {
-        text(x, signs);
-        return x.book(i);
-    }
-
-    private static int rule(BesideAnother x, String signs) {
-        text(x, signs);
-        return x.rule();
-    }
-
     private static BesideAnother books(String... texts) {
         BesideAnother x = new BesideAnother();
         for (int i = 0; i < texts.length; i++) {
-            due("book " + texts[i], book(x, 12, texts[i]), i);
+            due("book " + texts[i], Telling.book(x, 12, texts[i]), i);
         }
         return x;
     }
@@ -231,7 +209,7 @@ public final class Boundaries {
     private static BesideAnother free(int many) {
         BesideAnother x = new BesideAnother();
         for (int i = 0; i < many; i++) {
-            due("book 1", book(x, 12, "1"), i);
+            due("book 1", Telling.book(x, 12, "1"), i);
         }
         return x;
     }
@@ -253,10 +231,10 @@ public final class Boundaries {
     /** Where a text can't be a BOOK's, which leaves all as it is, but THE TEXT empty. */
     private static void wrongAt(String signs, int place) {
         BesideAnother x = books("1+1");
-        due("book(12) of " + signs, book(x, 12, signs), -1 - place);
+        due("book(12) of " + signs, Telling.book(x, 12, signs), -1 - place);
         due("BOOKS behind " + signs, x.count(0), 1);
         due("THE TEXT behind " + signs, x.count(6), 0);
-        due("book(0) of " + signs, book(x, 0, signs), -1 - place);
+        due("book(0) of " + signs, Telling.book(x, 0, signs), -1 - place);
         due("the CONDITION behind " + signs, x.value(0, 0), 2);
     }
 
@@ -272,6 +250,7 @@ public final class Boundaries {
         bookTexts();
         bookNumbers();
         expressions();
+        numbersTold();
         rules();
         limitsAndRoom();
         sheets();
@@ -349,10 +328,10 @@ public final class Boundaries {
     private static void bookTexts() {
         on(4, "a text of at most 60 signs", () -> {
             BesideAnother x = new BesideAnother();
-            due("60 signs", book(x, 12, many("1+", 29) + "11"), 0);
+            due("60 signs", Telling.book(x, 12, many("1+", 29) + "11"), 0);
             due("value", x.value(0, 0), 40);
-            due("61 signs", book(x, 12, many("1+", 29) + "(1)"), -61);
-            due("80 signs", book(x, 12, many("1+", 39) + "11"), -61);
+            due("61 signs", Telling.book(x, 12, many("1+", 29) + "(1)"), -61);
+            due("80 signs", Telling.book(x, 12, many("1+", 39) + "11"), -61);
         });
         on(4, "the sign at p can't stand there", () -> {
             wrongAt("+", 0);
@@ -411,10 +390,10 @@ public final class Boundaries {
         on(4, "BOOKS 0 .. (at most 12; written a .. l)", () -> {
             BesideAnother x = free(12);
             due("count(0)", x.count(0), 12);
-            due("a thirteenth", book(x, 12, "1"), -100);
+            due("a thirteenth", Telling.book(x, 12, "1"), -100);
             due("count(0)", x.count(0), 12);
-            due("the last", book(x, 11, "1"), 11);
-            due("a to l", book(x, 11, "a+b+c+d+e+f+g+h+i+j+k+l"), 11);
+            due("the last", Telling.book(x, 11, "1"), 11);
+            due("a to l", Telling.book(x, 11, "a+b+c+d+e+f+g+h+i+j+k+l"), 11);
             for (String other : new String[] {"`", "m", "A", "L", "{"}) {
                 wrongAt(other, 0);
             }
@@ -422,34 +401,34 @@ public final class Boundaries {
         on(4, "-100: another number, or 12 with twelve there (asked first)", () -> {
             BesideAnother x = free(2);
             for (int i : new int[] {2, 3, 11, 13, -1, MIN, MAX}) {
-                due("book(" + i + ") of 1", book(x, i, "1"), -100);
-                due("book(" + i + ") of +", book(x, i, "+"), -100);
-                due("book(" + i + ") of none", book(x, i, ""), -100);
+                due("book(" + i + ") of 1", Telling.book(x, i, "1"), -100);
+                due("book(" + i + ") of +", Telling.book(x, i, "+"), -100);
+                due("book(" + i + ") of none", Telling.book(x, i, ""), -100);
             }
             due("count(0)", x.count(0), 2);
-            due("book(1)", book(x, 1, "1"), 1);
+            due("book(1)", Telling.book(x, 1, "1"), 1);
             for (int i = 2; i < 12; i++) {
-                due("book(12)", book(x, 12, "1"), i);
+                due("book(12)", Telling.book(x, 12, "1"), i);
             }
-            due("book(12) of 1 with twelve", book(x, 12, "1"), -100);
-            due("book(12) of + with twelve", book(x, 12, "+"), -100);
-            due("book(11) of + with twelve", book(x, 11, "+"), -1);
+            due("book(12) of 1 with twelve", Telling.book(x, 12, "1"), -100);
+            due("book(12) of + with twelve", Telling.book(x, 12, "+"), -100);
+            due("book(11) of + with twelve", Telling.book(x, 11, "+"), -1);
         });
         on(4, "a number that is there; if it is open, its TABLE SETTLES", () -> {
             BesideAnother x = books("1", "a", "1", "1");
             make(x, 0, 1, OPEN1 + 2);
-            due("book(0)", book(x, 0, "0"), 0);
+            due("book(0)", Telling.book(x, 0, "0"), 0);
             due("open(0)", x.open(0), 0);
             due("open(1)", x.open(1), 4);
             // a TABLE where what MAY not be is open SETTLES only if the BOOK is open there
             x.keep(0);
-            book(x, 2, "0");
+            Telling.book(x, 2, "0");
             due("open(1)", x.open(1), 0);
             x.again(0);
-            book(x, 3, "1");
+            Telling.book(x, 3, "1");
             due("told anew, not open: nothing SETTLES", x.open(1), 4);
             make(x, 3);
-            book(x, 3, "t<9");
+            Telling.book(x, 3, "t<9");
             due("told anew, open elsewhere: TABLE 1 does not", x.open(1), 4);
             make(x, HAND1 + 3);
             due("handed to TABLE 1, which SETTLES", x.open(1), 8);
@@ -457,12 +436,12 @@ public final class Boundaries {
         on(4, "which a call that reads it empties", () -> {
             BesideAnother x = books("1+1");
             for (int i : new int[] {0, 1, 12, 13}) {
-                text(x, "1+");
+                Telling.text(x, "1+");
                 long want = i == 1 || i == 13 ? -100 : -3;
                 due("book(" + i + ")", x.book(i), want);
                 due("THE TEXT behind book(" + i + ")", x.count(6), 0);
             }
-            text(x, "3");
+            Telling.text(x, "3");
             due("book(12)", x.book(12), 1);
             due("THE TEXT behind book(12)", x.count(6), 0);
             due("the CONDITION", x.value(0, 0), 2);
@@ -526,7 +505,7 @@ public final class Boundaries {
         on(4, "a letter; also one that is not there: 0", () -> {
             BesideAnother x = books("l+b+5");
             due("value without b and l", x.value(0, 0), 5);
-            due("book b", book(x, 12, "1"), 1);
+            due("book b", Telling.book(x, 12, "1"), 1);
             due("value", x.value(0, 0), 5);
             make(x, 1);
             due("value beside b", x.value(0, 0), 6);
@@ -548,6 +527,51 @@ public final class Boundaries {
         });
     }
 
+    private static void numbersTold() {
+        on(4, "r how many READERS have READ this BOOK", () -> {
+            BesideAnother x = books("r+1", "r+1");
+            make(x, 0, 1);
+            due("value, READ by none", x.value(0, 0), 1);
+            for (int i = 0; i < 6; i++) {
+                x.reader(0, 0);
+                x.read(i, 0);
+                due("value", x.value(0, 0), i + 2);
+                due("value elsewhere", x.value(0, 2), i + 2);
+            }
+            due("value of one that none has READ", x.value(1, 0), 1);
+        });
+        on(4, "t the TABLE's number", () -> {
+            BesideAnother x = books("t");
+            for (int table = 0; table < 3; table++) {
+                due("value", x.value(0, table), table);
+            }
+            due("OPEN on TABLE 0", x.act(0), -5);
+            due("OPEN on TABLE 2", x.act(OPEN2), 0);
+        });
+        on(5, "n how many are there; r how many BOOKS it has READ; t its TABLE", () -> {
+            BesideAnother x = free(12);
+            x.set(1, 2, 6);
+            x.reader(0, 0);
+            x.reader(1, 0);
+            x.reader(2, 0);
+            for (int book = 0; book < 12; book++) {
+                make(x, OPEN2 + book);
+                x.read(2, book);
+                if (book < 6) {
+                    make(x, SHUT + book);
+                }
+            }
+            Telling.rule(x, "n=6");
+            row(x, "order() by a full TABLE", x.order(), 3, 2, 0, 1);
+            Telling.rule(x, "n=0");
+            row(x, "order() by an empty TABLE", x.order(), 3, 0, 1, 2);
+            Telling.rule(x, "r=12");
+            row(x, "order() by all READ", x.order(), 3, 2, 0, 1);
+            Telling.rule(x, "t=1");
+            row(x, "order() by TABLE 1", x.order(), 3, 1, 0, 2);
+        });
+    }
+
     private static void rules() {
         on(5, "at first none: 0", () -> {
             BesideAnother x = books("1");
@@ -559,31 +583,31 @@ public final class Boundaries {
             BesideAnother x = books("1");
             x.reader(0, 0);
             x.reader(2, 0);
-            due("rule t", rule(x, "t"), 0);
+            due("rule t", Telling.rule(x, "t"), 0);
             row(x, "order()", x.order(), 2, 1, 0);
-            due("rule of none", rule(x, ""), 0);
+            due("rule of none", Telling.rule(x, ""), 0);
             row(x, "order()", x.order(), 2, 0, 1);
         });
         on(5, "(one EXPRESSION of at most 40 signs", () -> {
             BesideAnother x = books("1");
             x.reader(0, 0);
             x.reader(2, 0);
-            due("40 signs", rule(x, many("0+", 18) + "00+t"), 0);
+            due("40 signs", Telling.rule(x, many("0+", 18) + "00+t"), 0);
             row(x, "order() by t", x.order(), 2, 1, 0);
-            due("41 signs", rule(x, many("0+", 18) + "(0)-t"), -41);
-            due("41 signs", rule(x, many("0+", 18) + "0-99+"), -41);
-            due("two of them", rule(x, "1;1;1"), -2);
+            due("41 signs", Telling.rule(x, many("0+", 18) + "(0)-t"), -41);
+            due("41 signs", Telling.rule(x, many("0+", 18) + "0-99+"), -41);
+            due("two of them", Telling.rule(x, "1;1;1"), -2);
             row(x, "order() by t still", x.order(), 2, 1, 0);
         });
         on(5, "as book() (40 signs)", () -> {
             BesideAnother x = books("1");
             x.reader(0, 0);
             x.reader(2, 0);
-            rule(x, "t");
+            Telling.rule(x, "t");
             String[] told = {"+", "1+", "1)1", "(((((t)))))", "m", "1<2<3", "100", many("1+", 20), many("1+", 19) + "1)1", many("!", 80), many("1+", 19) + "11+"};
             int[] place = {0, 2, 1, 4, 0, 3, 2, 40, 39, 40, 40};
             for (int i = 0; i < told.length; i++) {
-                due("rule " + told[i], rule(x, told[i]), -1 - place[i]);
+                due("rule " + told[i], Telling.rule(x, told[i]), -1 - place[i]);
                 due("THE TEXT behind " + told[i], x.count(6), 0);
             }
             row(x, "order() by t still", x.order(), 2, 1, 0);
@@ -592,9 +616,9 @@ public final class Boundaries {
             BesideAnother x = books("1");
             x.reader(0, 0);
             x.reader(2, 0);
-            due("a letter of none such", rule(x, "l"), 0);
+            due("a letter of none such", Telling.rule(x, "l"), 0);
             row(x, "order() by l", x.order(), 2, 0, 1);
-            due("a letter", rule(x, "a"), 0);
+            due("a letter", Telling.rule(x, "a"), 0);
             row(x, "order() by a", x.order(), 2, 0, 1);
             make(x, OPEN2);
             row(x, "order() by a", x.order(), 2, 1, 0);
@@ -686,7 +710,7 @@ public final class Boundaries {
             due("one", x.sheet(1, 1, 5, 0), 5 + 99 + 99);
             due("none", x.sheet(0, 0, 5, 0), 99 + 99 + 99);
             due("more than there are", x.sheet(2, 12, 5, 0), 15);
-            due("one more BOOK", book(x, 12, "1"), 3);
+            due("one more BOOK", Telling.book(x, 12, "1"), 3);
             due("about", x.about(3, 0), 99);
         });
         on(7, "the sum of LIMITS of the BOOKS there are", () -> {
@@ -801,9 +825,9 @@ public final class Boundaries {
         on(10, "(without the BOOK, if it is not open there)", () -> {
             BesideAnother x = books("n+a");
             due("value, not open", x.value(0, 0), 0);
-            book(x, 0, "n+a|n<1");
+            Telling.book(x, 0, "n+a|n<1");
             make(x, 0);
-            book(x, 0, "n+a");
+            Telling.book(x, 0, "n+a");
             due("value where it is open", x.value(0, 0), 2);
             due("value elsewhere", x.value(0, 1), 0);
         });
@@ -1053,7 +1077,7 @@ public final class Boundaries {
             x.set(1, 2, 1);
             make(x, HAND2);
             row(x, "can()", x.can(), 2, HAND0, HAND0 + 1);
-            book(x, 12, "1");
+            Telling.book(x, 12, "1");
             make(x, 2);
             row(x, "can(): all full, though each can be SHUT", x.can(), 0);
         });
@@ -1088,7 +1112,7 @@ public final class Boundaries {
             due("night: c goes behind b", x.night(2 + 4 + 8), 8);
             // what MAY not be goes, though all are told
             x.keep(0);
-            book(x, 3, "0");
+            Telling.book(x, 3, "0");
             x.again(0);
             due("count(3)", x.count(3), 8);
             due("night of all", x.night(15), 0);
@@ -1252,8 +1276,8 @@ public final class Boundaries {
             make(y, 0, OPEN1 + 1);
             due("read", y.read(0, 0), 1);
             y.keep(0);
-            book(y, 0, "0");
-            book(y, 1, "0");
+            Telling.book(y, 0, "0");
+            Telling.book(y, 1, "0");
             y.again(0);
             due("once more", y.read(0, 0), 1);
             due("open(0)", y.open(0), 0);
@@ -1369,7 +1393,7 @@ public final class Boundaries {
             BesideAnother x = free(2);
             x.reader(0, 2);
             x.reader(0, 1);
-            rule(x, "r");
+            Telling.rule(x, "r");
             x.hours(2);
             due("log: OPEN b", x.log(3), 41);
             due("log: OPEN a", x.log(2), 140);
@@ -1379,7 +1403,7 @@ public final class Boundaries {
             BesideAnother y = books("1", "1");
             y.reader(0, 1);
             y.reader(1, 2);
-            rule(y, "t=1&n=0");
+            Telling.rule(y, "t=1&n=0");
             y.hours(1);
             due("log: the second one first, though it OPENS b then", y.log(1), 141);
             due("log", y.log(0), 40);
@@ -1540,7 +1564,7 @@ public final class Boundaries {
             for (int i = 0; i < 6; i++) {
                 x.reader(i % 3, 0);
             }
-            rule(x, "t");
+            Telling.rule(x, "t");
             row(x, "six", x.order(), 6, 2, 5, 1, 4, 0, 3);
         });
         on(22, "the greater by THE RULE first, of equal ones the lesser number", () -> {
@@ -1549,9 +1573,9 @@ public final class Boundaries {
             x.reader(0, 0);
             x.reader(2, 0);
             x.reader(1, 0);
-            rule(x, "1-t");
+            Telling.rule(x, "1-t");
             row(x, "1, 0, -1, -1", x.order(), 4, 1, 3, 0, 2);
-            rule(x, "9");
+            Telling.rule(x, "9");
             row(x, "all equal", x.order(), 4, 0, 1, 2, 3);
         });
     }
@@ -1633,12 +1657,12 @@ public final class Boundaries {
         on(24, "all others, if it never MAY", () -> {
             BesideAnother x = books("0");
             due("alone", x.needs(0, 0), 0);
-            book(x, 12, "1");
-            book(x, 12, "1");
+            Telling.book(x, 12, "1");
+            Telling.book(x, 12, "1");
             due("two others", x.needs(0, 0), 6);
             due("one that MAY", x.needs(1, 0), 0);
             BesideAnother y = free(12);
-            book(y, 4, "t=1");
+            Telling.book(y, 4, "t=1");
             due("eleven others", y.needs(4, 0), 4095 - 16);
             due("where it MAY", y.needs(4, 1), 0);
         });
@@ -1710,7 +1734,7 @@ public final class Boundaries {
             BesideAnother x = books("b&c|d&e", "c|d", "1", "1", "1");
             row(x, "b, c ahead of d, e", x.least(0, 0), 2, 6, 2);
             row(x, "c ahead of d", x.least(1, 0), 1, 4, 2);
-            book(x, 0, "b&c|d");
+            Telling.book(x, 0, "b&c|d");
             row(x, "fewer, though not the least bits", x.least(0, 0), 1, 8, 1);
         });
         on(26, "-2: none does; NONE: none such.", () -> {
@@ -1731,7 +1755,7 @@ public final class Boundaries {
         on(27, "the shortest ring of BOOKS each of which needs() the next one on a TABLE", () -> {
             BesideAnother x = books("b", "c", "a", "e", "d");
             row(x, "two, not three", x.knot(0), 2, 3, 4);
-            book(x, 4, "1");
+            Telling.book(x, 4, "1");
             row(x, "three", x.knot(0), 3, 0, 1, 2);
             BesideAnother y = books("b", "c", "d", "e", "f", "g", "h", "i", "j", "k", "l", "a");
             row(y, "all twelve", y.knot(0), 12, 0, 1, 2, 3, 4, 5, 6, 7, 8, 9, 10, 11);
@@ -1863,8 +1887,8 @@ public final class Boundaries {
     /** One neighbour more, and ROOM for five: abcde, bcde, bcdef, def (c's SHUT takes b with it), defg, defgh. */
     private static void lengthen(BesideAnother x) {
         x.set(1, 0, 5);
-        book(x, 6, "t=0&(f|h)");
-        book(x, 12, "t=0&g");
+        Telling.book(x, 6, "t=0&(f|h)");
+        Telling.book(x, 12, "t=0&g");
     }
 
     private static void together() {
@@ -2062,14 +2086,14 @@ public final class Boundaries {
             x.set(1, table, 6);
         }
         // g beside just a, b, c on 0: 27 of the others; h beside just d, e, f on 1 (or 2): 27 (54); both: 1 (2)
-        book(x, 12, "t=0&a&b&c&!(d|e|f|i|j|k|l)");
-        book(x, 12, oneMore ? "t>0&d&e&f&!(a|b|c)" : "t=1&d&e&f&!(a|b|c)");
+        Telling.book(x, 12, "t=0&a&b&c&!(d|e|f|i|j|k|l)");
+        Telling.book(x, 12, oneMore ? "t>0&d&e&f&!(a|b|c)" : "t=1&d&e&f&!(a|b|c)");
         // i beside just one of d, e, f: 3 * 243; j beside just a, d: 81
-        book(x, 12, "t=0&d+e+f=1&!(a|b|c|g|j|k|l)");
-        book(x, 12, "t=0&a&d&!(b|c|e|f|g|i|k|l)");
+        Telling.book(x, 12, "t=0&d+e+f=1&!(a|b|c|g|j|k|l)");
+        Telling.book(x, 12, "t=0&a&d&!(b|c|e|f|g|i|k|l)");
         // k beside just a, d, e, and perhaps b: 27 + 9 (or surely b: 9); l beside a .. e: 3
-        book(x, 12, oneMore ? "t=0&a&b&d&e&!(c|f|g|i|j|l)" : "t=0&a&d&e&!(c|f|g|i|j|l)");
-        book(x, 12, "t=0&a&b&c&d&e&!(f|g|i|j|k)");
+        Telling.book(x, 12, oneMore ? "t=0&a&b&d&e&!(c|f|g|i|j|l)" : "t=0&a&d&e&!(c|f|g|i|j|l)");
+        Telling.book(x, 12, "t=0&a&b&c&d&e&!(f|g|i|j|k)");
         return x;
     }
 
@@ -2127,7 +2151,7 @@ public final class Boundaries {
             row(x, "the first TABLE where it MAY be", x.soonest(1), 1, 21);
             make(x, OPEN1 + 1);
             row(x, "beside b, by one", x.soonest(2), 1, 22);
-            book(x, 2, "t=2&b|a&t=0");
+            Telling.book(x, 2, "t=2&b|a&t=0");
             row(x, "OPEN ahead of HAND", x.soonest(2), 2, 0, 2);
         });
         on(35, "0: it is; -2: never; -3, if reach() is; NONE: none such.", () -> {
@@ -2208,7 +2232,7 @@ public final class Boundaries {
             BesideAnother x = free(2);
             make(x, 0, OPEN1 + 1);
             x.keep(0);
-            book(x, 0, "!a");
+            Telling.book(x, 0, "!a");
             due("a can be OPENED, but SETTLES shut", x.act(0), 1);
             x.again(0);
             due("a is open, though it MAY not be", x.open(0), 1);
@@ -2267,9 +2291,9 @@ public final class Boundaries {
             row(x, "b, and c with it", x.free(), 0, 1, 6);
             BesideAnother y = books("a|b", "a|b", "a|b");
             due("nothing comes", y.free(), 1);
-            book(y, 0, "1");
+            Telling.book(y, 0, "1");
             make(y, 0, 1);
-            book(y, 0, "a|b");
+            Telling.book(y, 0, "a|b");
             row(y, "both have to go", y.free(), 0, 2, 7);
         });
         on(38, "of states with as few ACTS that of the least row of ACTS", () -> {
@@ -2370,9 +2394,9 @@ public final class Boundaries {
         on(40, "BOOKS and READERS told since are open nowhere, have OPENED 0, READ none, sit where reader() told", () -> {
             BesideAnother x = new BesideAnother();
             x.keep(0);
-            book(x, 12, "1");
+            Telling.book(x, 12, "1");
             x.keep(1);
-            book(x, 12, "1");
+            Telling.book(x, 12, "1");
             x.reader(2, 3);
             x.reader(0, 1);
             make(x, OPEN1, OPEN1 + 1);
@@ -2411,8 +2435,8 @@ public final class Boundaries {
             BesideAnother x = free(3);
             make(x, 0, 1, OPEN2 + 2);
             x.keep(0);
-            book(x, 0, "0");
-            book(x, 2, "0");
+            Telling.book(x, 0, "0");
+            Telling.book(x, 2, "0");
             due("open anywhere", x.count(3), 2);
             due("again", x.again(0), true);
             due("open(0)", x.open(0), 3);
@@ -2455,9 +2479,9 @@ public final class Boundaries {
             due("no ROW", x.count(5), 0);
             x.can();
             due("eight", x.count(5), 8);
-            book(x, 0, "b");
+            Telling.book(x, 0, "b");
             for (int i = 1; i < 12; i++) {
-                book(x, i, i == 11 ? "a" : "" + (char) ('b' + i));
+                Telling.book(x, i, i == 11 ? "a" : "" + (char) ('b' + i));
             }
             due("knot", x.knot(0), 12);
             due("twelve", x.count(5), 12);

@@ -148,7 +148,7 @@ public final class Broken {
 
     private static Map<String, byte[]> testClasses() throws IOException {
         Map<String, byte[]> classes = new HashMap<>();
-        for (String name : new String[] {"Boundaries", "Boundaries$Sentence", "Boundaries$Call"}) {
+        for (String name : new String[] {"Boundaries", "Boundaries$Sentence", "Boundaries$Call", "Telling"}) {
             try (InputStream in = Broken.class.getResourceAsStream(name + ".class")) {
                 classes.put(name, in.readAllBytes());
             }
@@ -278,6 +278,12 @@ public final class Broken {
     }
 
     private static void rulesAndLimits() {
+        on(4, "r how many", "item == TOLD ? told : table;", "item == TOLD ? Math.min(told, 5) : table;");
+        on(4, "r how many", "item == TOLD ? told : table;", "item == TOLD ? told & set : table;");
+        on(4, "t the TABLE", "item == TOLD ? told : table;", "item == TOLD ? told : Math.min(table, 1);");
+        on(5, "n how many", "Integer.bitCount(it.read), it.table);", "Math.min(11, Integer.bitCount(it.read)), it.table);");
+        on(5, "n how many", "Integer.bitCount(it.read), it.table);", "Integer.bitCount(it.read), 2);");
+        on(5, "n how many", "item == COUNT ? Integer.bitCount(set)", "item == COUNT ? Math.max(1, Math.min(5, Integer.bitCount(set)))");
         on(5, "at first none", "return top > 0 ? stack[0] : 0;", "return top > 0 ? stack[0] : table;");
         on(5, "(an empty", "rule.clear(); return 0;", "return 0;");
         on(5, "(an empty", "if (text.size == 0) { rule.clear();", "if (text.size < 0) { rule.clear();");

@@ -45,32 +45,10 @@ public final class Promises {
         }
     }
 
-    private static void text(BesideAnother x, String signs) {
-        x.end(0);
-        for (int i = 0; i < signs.length(); i += 4) {
-            int v = 0;
-            for (int k = i; k < i + 4; k++) {
-                v = v << 8 | (k < signs.length() ? signs.charAt(k) : 0);
-            }
-            x.sign(v);
-        }
-        x.end(signs.length());
-    }
-
-    private static int book(BesideAnother x, int i, String signs) {
-        text(x, signs);
-        return x.book(i);
-    }
-
-    private static int rule(BesideAnother x, String signs) {
-        text(x, signs);
-        return x.rule();
-    }
-
     private static BesideAnother books(String... texts) {
         BesideAnother x = new BesideAnother();
         for (int i = 0; i < texts.length; i++) {
-            due("book " + texts[i], book(x, 12, texts[i]), i);
+            due("book " + texts[i], Telling.book(x, 12, texts[i]), i);
         }
         return x;
     }
@@ -226,33 +204,33 @@ public final class Promises {
         };
         due("as many", bad.length, at.length);
         for (int i = 0; i < bad.length; i++) {
-            due("book " + bad[i], book(x, 12, bad[i]), -1 - at[i]);
+            due("book " + bad[i], Telling.book(x, 12, bad[i]), -1 - at[i]);
             due("count(6)", x.count(6), 0);
             due("count(0)", x.count(0), 0);
         }
         String sixty = many("1+", 29) + "11";
-        due("60 signs", book(x, 12, sixty), 0);
-        due("61 signs", book(x, 12, sixty + "1"), -61);
-        due("62 signs, the first 60 end too early", book(x, 12, many("1+", 31)), -61);
-        due("61 signs, the 60th can't stand there", book(x, 12, many("1+", 29) + "1)1"), -60);
-        due("80 signs, the third can't stand there", book(x, 12, "1+" + many(")", 78)), -3);
-        due("60 signs that end too early", book(x, 12, many("1+", 30)), -61);
-        due("80 of !", book(x, 12, many("!", 80)), -61);
-        due("59 times ! and 0", book(x, 12, many("!", 59) + "0"), 1);
+        due("60 signs", Telling.book(x, 12, sixty), 0);
+        due("61 signs", Telling.book(x, 12, sixty + "1"), -61);
+        due("62 signs, the first 60 end too early", Telling.book(x, 12, many("1+", 31)), -61);
+        due("61 signs, the 60th can't stand there", Telling.book(x, 12, many("1+", 29) + "1)1"), -60);
+        due("80 signs, the third can't stand there", Telling.book(x, 12, "1+" + many(")", 78)), -3);
+        due("60 signs that end too early", Telling.book(x, 12, many("1+", 30)), -61);
+        due("80 of !", Telling.book(x, 12, many("!", 80)), -61);
+        due("59 times ! and 0", Telling.book(x, 12, many("!", 59) + "0"), 1);
         due("value", x.value(1, 0), 1);
         // -100 is asked first, and empties THE TEXT too
         for (int i : new int[] {2, 11, 13, -1, Integer.MIN_VALUE, Integer.MAX_VALUE}) {
-            due("book(" + i + ")", book(x, i, "1"), -100);
-            due("book(" + i + ")", book(x, i, "+"), -100);
+            due("book(" + i + ")", Telling.book(x, i, "1"), -100);
+            due("book(" + i + ")", Telling.book(x, i, "+"), -100);
             due("count(6)", x.count(6), 0);
         }
         for (int i = 2; i < 12; i++) {
-            due("book(12)", book(x, 12, "l;6;n"), i);
+            due("book(12)", Telling.book(x, 12, "l;6;n"), i);
         }
-        due("book(12) with twelve", book(x, 12, "1"), -100);
-        due("book(12) with twelve", book(x, 12, "+"), -100);
-        due("book(11)", book(x, 11, "!"), -2);
-        due("book(11)", book(x, 11, "((((1))))"), 11);
+        due("book(12) with twelve", Telling.book(x, 12, "1"), -100);
+        due("book(12) with twelve", Telling.book(x, 12, "+"), -100);
+        due("book(11)", Telling.book(x, 11, "!"), -2);
+        due("book(11)", Telling.book(x, 11, "((((1))))"), 11);
     }
 
     private static void worths() {
@@ -270,7 +248,7 @@ public final class Promises {
         };
         due("as many", told.length, worth.length);
         for (int i = 0; i < told.length; i++) {
-            due("book " + told[i], book(x, 3, told[i]), 3);
+            due("book " + told[i], Telling.book(x, 3, told[i]), 3);
             due("value of " + told[i], x.value(3, 1), worth[i]);
         }
     }
@@ -279,57 +257,57 @@ public final class Promises {
         BesideAnother x = books("1", "a", "b", "1");
         acts(x, 0, 1, 2, OPEN1 + 3);
         due("set", x.set(0, 1, 7), 99);
-        due("book(1) that can't be", book(x, 1, "!"), -2);
+        due("book(1) that can't be", Telling.book(x, 1, "!"), -2);
         due("open", x.open(0), 7);
-        due("book(1) anew", book(x, 1, "!a"), 1);
+        due("book(1) anew", Telling.book(x, 1, "!a"), 1);
         due("open: b shut, then c", x.open(0), 1);
         due("open(1)", x.open(1), 8);
         due("OPENED stays", x.about(1, 1), 1);
         due("LIMIT stays", x.about(1, 0), 7);
-        due("book(3) anew", book(x, 3, "t=0"), 3);
+        due("book(3) anew", Telling.book(x, 3, "t=0"), 3);
         due("open(1)", x.open(1), 0);
-        due("book(3) anew, shut", book(x, 3, "t=1;1;0"), 3);
+        due("book(3) anew, shut", Telling.book(x, 3, "t=1;1;0"), 3);
         due("why", x.why(OPEN1 + 3), 0);
         due("why", x.why(OPEN2 + 3), -5);
     }
 
     private static void ruleAndOrder() {
         BesideAnother x = books("1", "1", "1");
-        due("rule", rule(x, ""), 0);
-        due("rule +", rule(x, "+"), -1);
-        due("rule 1;", rule(x, "1;2;1"), -2);
-        due("rule 1<2<3", rule(x, "1<2<3"), -4);
-        due("rule of 40", rule(x, many("1+", 19) + "11"), 0);
-        due("rule of 41", rule(x, many("1+", 20) + "1"), -41);
-        due("rule of 41, of which the 40th can't stand there", rule(x, many("1+", 19) + "1)1"), -40);
-        due("rule of 40 that ends too early", rule(x, many("1+", 20)), -41);
-        due("rule (", rule(x, "(((((1)))))"), -5);
+        due("rule", Telling.rule(x, ""), 0);
+        due("rule +", Telling.rule(x, "+"), -1);
+        due("rule 1;", Telling.rule(x, "1;2;1"), -2);
+        due("rule 1<2<3", Telling.rule(x, "1<2<3"), -4);
+        due("rule of 40", Telling.rule(x, many("1+", 19) + "11"), 0);
+        due("rule of 41", Telling.rule(x, many("1+", 20) + "1"), -41);
+        due("rule of 41, of which the 40th can't stand there", Telling.rule(x, many("1+", 19) + "1)1"), -40);
+        due("rule of 40 that ends too early", Telling.rule(x, many("1+", 20)), -41);
+        due("rule (", Telling.rule(x, "(((((1)))))"), -5);
         due("count(6)", x.count(6), 0);
-        rule(x, "");
+        Telling.rule(x, "");
         due("reader", x.reader(0, 7), 0);
         due("reader", x.reader(1, 1), 1);
         due("reader", x.reader(2, 1), 2);
         due("reader", x.reader(1, 0), 3);
         due(x, "order", x.order(), 4, 0, 1, 2, 3);
-        rule(x, "t");
+        Telling.rule(x, "t");
         due(x, "order by t", x.order(), 4, 2, 1, 3, 0);
-        due("a rule that can't be", rule(x, "t+"), -3);
+        due("a rule that can't be", Telling.rule(x, "t+"), -3);
         due(x, "order by t still", x.order(), 4, 2, 1, 3, 0);
-        rule(x, "0-t");
+        Telling.rule(x, "0-t");
         due(x, "order by -t", x.order(), 4, 0, 1, 3, 2);
         acts(x, OPEN1, OPEN1 + 1, 2);
-        rule(x, "n");
+        Telling.rule(x, "n");
         due(x, "order by n", x.order(), 4, 1, 3, 0, 2);
-        rule(x, "c");
+        Telling.rule(x, "c");
         due(x, "order by c", x.order(), 4, 0, 1, 2, 3);
-        rule(x, "b|l");
+        Telling.rule(x, "b|l");
         due(x, "order by b", x.order(), 4, 1, 3, 0, 2);
-        rule(x, "r");
+        Telling.rule(x, "r");
         due("read", x.read(3, 0), 1);
         due("read", x.read(3, 1), 1);
         due("read", x.read(0, 2), 1);
         due(x, "order by r", x.order(), 4, 3, 0, 1, 2);
-        rule(x, "");
+        Telling.rule(x, "");
         due(x, "order", x.order(), 4, 0, 1, 2, 3);
         due("count(2)", x.count(2), 0);
     }
@@ -379,7 +357,7 @@ public final class Promises {
         due("missing", x.sheet(3, -5, 1, 1), -3);
         due("all 99", x.about(0, 0) + x.about(1, 0) + x.about(2, 0), 297);
         x.sheet(2, 12, 1, 0);
-        book(x, 12, "1");
+        Telling.book(x, 12, "1");
         due("a BOOK told since", x.about(3, 0), 99);
     }
 
@@ -484,9 +462,9 @@ public final class Promises {
         x = books("!b", "!a|n=2", "1");
         acts(x, 2, 1);
         due("open", x.open(0), 6);
-        book(x, 1, "1");
+        Telling.book(x, 1, "1");
         acts(x, SHUT + 1, 0);
-        book(x, 1, "c");
+        Telling.book(x, 1, "c");
         due("OPEN b", x.act(1), 1);
         due("open", x.open(0), 6);
         x = books("n<2", "n<2", "n<2");
@@ -679,7 +657,7 @@ public final class Promises {
         x = books("1", "1");
         x.reader(0, 1);
         x.reader(1, 2);
-        rule(x, "t=1&n=0");
+        Telling.rule(x, "t=1&n=0");
         x.hours(1);
         due("log: the second first", x.log(1), 141);
         due("log", x.log(0), 40);
@@ -814,16 +792,16 @@ public final class Promises {
         due("the ROW stays", x.count(5), 3);
         due("another TABLE", x.knot(3), -1);
         due("another TABLE", x.knot(-1), -1);
-        book(x, 0, "c");
+        Telling.book(x, 0, "c");
         due(x, "three", x.knot(0), 3, 0, 2, 1);
-        book(x, 12, "e");
-        book(x, 12, "d");
+        Telling.book(x, 12, "e");
+        Telling.book(x, 12, "d");
         due(x, "two", x.knot(1), 2, 3, 4);
-        book(x, 12, "0");
+        Telling.book(x, 12, "0");
         due(x, "one", x.knot(2), 1, 5);
         x = books("b&d", "c&d", "a", "1", "f", "e");
         due(x, "two is shorter", x.knot(0), 2, 4, 5);
-        book(x, 5, "1");
+        Telling.book(x, 5, "1");
         due(x, "three", x.knot(0), 3, 0, 1, 2);
         x.set(1, 0, 2);
         due(x, "two needed with ROOM for one", x.knot(0), 1, 0);
@@ -858,8 +836,8 @@ public final class Promises {
         BesideAnother x = books("1", "a", "b&!a|c", "0");
         // b stays only beside a: nothing, a, ab; c never opens
         due(x, "comes", x.comes(0), 3, 3, 2);
-        book(x, 1, "a|c");
-        book(x, 2, "b");
+        Telling.book(x, 1, "a|c");
+        Telling.book(x, 2, "b");
         // nothing, a, ab, abc, bc
         due(x, "comes", x.comes(0), 5, 7, 4);
         due(x, "together", x.together(0, 6), 3, 0, 1, 2);
@@ -879,7 +857,7 @@ public final class Promises {
         due(x, "together", x.together(1, 6), 3, 20, 21, 22);
         due("open", x.open(1), 3);
         // d only beside b and c without a: a has to shut
-        book(x, 3, "!a&b&c");
+        Telling.book(x, 3, "!a&b&c");
         due(x, "together", x.together(2, 8), 5, 40, 41, 42, 60, 43);
         x.set(0, 2, 0);
         due("no LIMIT left", x.together(2, 8), -2);
@@ -1019,7 +997,7 @@ public final class Promises {
         due("the ROW stays", x.count(5), 3);
         x = books("1", "1", "n=2");
         due("it opens, but does not stay so", x.soonest(2), -2);
-        book(x, 2, "n>1");
+        Telling.book(x, 2, "n>1");
         due(x, "the least row", x.soonest(2), 3, 0, 1, 2);
         due(x, "a and c hold there without b", x.till(0, 5, 2), 4, 20, 21, 22, HAND2 + 1);
         due("c alone does not", x.till(0, 4, 0), -2);
@@ -1045,9 +1023,9 @@ public final class Promises {
         int states = 4096 - 3 * (15 * 9 + 6 * 3 + 1);
         due("reach", x.reach(), 4096 - 3 * (15 * 9 + 6 * 3 + 1));
         due("row", x.row(1), 6);
-        book(x, 12, "t=0&n=0&l");
+        Telling.book(x, 12, "t=0&n=0&l");
         due("reach", x.reach(), states);
-        book(x, 6, "1");
+        Telling.book(x, 6, "1");
         due("reach", x.reach(), -3);
         due("the ROW stays", x.count(5), 2);
         due("soonest", x.soonest(0), -3);
@@ -1088,24 +1066,24 @@ public final class Promises {
         }
         due(x, "4096", x.reach(), 4096, 63, 6);
         // g just beside a, b, c on 0, h just beside d, e, f on 1: 27 each, 1 with both
-        book(x, 12, "t=0&a&b&c&!(d|e|f|i|j|k|l)");
-        book(x, 12, "t=1&d&e&f&!(a|b|c)");
+        Telling.book(x, 12, "t=0&a&b&c&!(d|e|f|i|j|k|l)");
+        Telling.book(x, 12, "t=1&d&e&f&!(a|b|c)");
         due(x, "55 more", x.reach(), 4151, 255, 8);
         // the others on 0, one of them at most, and none with g or h: i beside one of d, e, f: 3 * 243
-        book(x, 12, "t=0&d+e+f=1&!(a|b|c|g|j|k|l)");
+        Telling.book(x, 12, "t=0&d+e+f=1&!(a|b|c|g|j|k|l)");
         due("729 more", x.reach(), 4880);
         // j beside a, d: 81; k beside a, d, e and perhaps b: 27 + 9
-        book(x, 12, "t=0&a&d&!(b|c|e|f|g|i|k|l)");
+        Telling.book(x, 12, "t=0&a&d&!(b|c|e|f|g|i|k|l)");
         due("81 more", x.reach(), 4961);
-        book(x, 12, "t=0&a&d&e&!(c|f|g|i|j|l)");
+        Telling.book(x, 12, "t=0&a&d&e&!(c|f|g|i|j|l)");
         due("36 more", x.reach(), 4997);
         // l beside a .. e: f is elsewhere
-        book(x, 12, "t=0&a&b&c&d&e&!(f|g|i|j|k)");
+        Telling.book(x, 12, "t=0&a&b&c&d&e&!(f|g|i|j|k)");
         due(x, "3 more: just 5000", x.reach(), 5000, 4095, 8);
         due(x, "soonest", x.soonest(11), 6, 0, 1, 2, 3, 4, 11);
         due(x, "free", x.free(), 1);
         due("keeps: g is not for TABLE 2", x.keeps(2, 64), -2);
-        book(x, 8, "t=0&d+e+f=1&!(a|b|c|g|j|k|l)|t=2&a&b&c&d&e");
+        Telling.book(x, 8, "t=0&d+e+f=1&!(a|b|c|g|j|k|l)|t=2&a&b&c&d&e");
         due("3 more: too many", x.reach(), -3);
         due(x, "keeps: i is, beside a .. e", x.keeps(2, 256), 0, 0);
         due("keeps: g is not", x.keeps(2, 64), -2);
@@ -1135,9 +1113,9 @@ public final class Promises {
         // behind more than one ACT; of as few that of the least row
         x = books("1", "1", "a|b|c", "0");
         acts(x, 0, 1, 2);
-        book(x, 2, "a|b");
-        book(x, 0, "a|b");
-        book(x, 1, "b|a");
+        Telling.book(x, 2, "a|b");
+        Telling.book(x, 0, "a|b");
+        Telling.book(x, 1, "b|a");
         // a and b hold themselves, and let each other and c open: all are gone when both are
         due("lost", x.lost(), 0);
         due(x, "free", x.free(), 0, 2, 7);
@@ -1150,15 +1128,15 @@ public final class Promises {
         due("settled", x.open(0), 0);
         x = books("1");
         acts(x, 0);
-        book(x, 0, "a|t=1");
+        Telling.book(x, 0, "a|t=1");
         due("lost: no, TABLE 1 does", x.lost(), 0);
-        book(x, 0, "a");
+        Telling.book(x, 0, "a");
         due("lost", x.lost(), 1);
         due(x, "free", x.free(), 0, 1, 1);
-        book(x, 0, "1");
+        Telling.book(x, 0, "1");
         due("lost", x.lost(), 0);
         x.keep(0);
-        book(x, 0, "!a");
+        Telling.book(x, 0, "!a");
         due("shut", x.open(0), 0);
         x.again(0);
         due("open, though it MAY not be", x.open(0), 1);
@@ -1183,7 +1161,7 @@ public final class Promises {
         x.hours(3);
         x.sit(1, 0);
         x.sit(0, 1);
-        book(x, 12, "1");
+        Telling.book(x, 12, "1");
         x.reader(1, 8);
         x.sit(2, 2);
         acts(x, OPEN2 + 3);
@@ -1231,8 +1209,8 @@ public final class Promises {
         x = books("1", "1", "1");
         acts(x, 0, OPEN1 + 1);
         x.keep(0);
-        book(x, 0, "0");
-        book(x, 1, "0");
+        Telling.book(x, 0, "0");
+        Telling.book(x, 1, "0");
         due("open", x.count(3), 0);
         x.again(0);
         due("open", x.count(3), 3);
