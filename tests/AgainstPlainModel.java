@@ -23,7 +23,7 @@ public final class AgainstPlainModel {
         long seed = args.length > 1 ? Long.parseLong(args[1]) : 20261118L;
         Map<String, Integer> seen = new java.util.TreeMap<>();
         for (int run = 0; run < runs && wrong < 10; run++) {
-            new Run(new Random((seed + run) * 0x9E3779B97F4A7C15L), run, seen).go();
+            new Run(new Random(seed * 0xD1342543DE82EF95L + run * 0x9E3779B97F4A7C15L), run, seen).go();
         }
         if (args.length > 0) {
             System.out.println(seen);
@@ -50,16 +50,16 @@ public final class AgainstPlainModel {
             this.random = random;
             this.run = run;
             this.seen = seen;
-            this.style = random.nextInt(5);
+            this.style = random.nextInt(7);
         }
 
         void go() {
-            int first = style == 3 ? 7 + random.nextInt(6) : style == 1 ? 4 + random.nextInt(3) : random.nextInt(7);
+            int first = style == 3 ? 7 + random.nextInt(6) : style == 1 || style >= 5 ? 4 + random.nextInt(3) : random.nextInt(7);
             for (int i = 0; i < first; i++) {
                 tellText(expression(3));
                 ask("book", 12);
             }
-            for (int i = random.nextInt(5); i > 0; i--) {
+            for (int i = style >= 5 ? 3 + random.nextInt(4) : random.nextInt(5); i > 0; i--) {
                 ask("reader", random.nextInt(3), random.nextInt(1 << Math.max(1, model.books.size())));
             }
             if (random.nextInt(3) == 0) {
@@ -120,8 +120,8 @@ public final class AgainstPlainModel {
 
         private String expression(int deep) {
             int k = random.nextInt(10);
-            String text = style == 1 || style == 2 && k < 5 ? terms() : k < 3 || style == 4 && k < 8 ? "1" : k < 5 ? "n<" + random.nextInt(5) : plain(deep);
-            if (random.nextInt(4) == 0) {
+            String text = style == 1 || style % 3 == 2 && k < 5 ? terms() : k < 3 || style == 4 && k < 8 ? "1" : k < 5 ? "n<" + random.nextInt(5) : plain(deep);
+            if (random.nextInt(style == 6 ? 2 : 4) == 0) {
                 text += ";" + (1 + random.nextInt(3)) + ";" + plain(deep);
             }
             if (random.nextInt(12) == 0) {
@@ -179,10 +179,19 @@ public final class AgainstPlainModel {
             return k < 12 ? random.nextInt() & random.nextInt() & all : k < 20 ? random.nextInt() & all : all;
         }
 
+        /** Some runs are mostly of READERS, some of what is kept, told anew and read. */
+        private int nextCall() {
+            if (style < 5 || random.nextBoolean()) {
+                return random.nextInt(44);
+            }
+            int[] most = style == 5 ? new int[] {7, 8, 18, 19, 21, 24, 24, 25, 26, 27, 27} : new int[] {0, 2, 7, 8, 16, 21, 22, 24, 43, 43};
+            return most[random.nextInt(most.length)];
+        }
+
         private void step() {
             int books = model.books.size();
             int people = model.readers.size();
-            switch (random.nextInt(44)) {
+            switch (nextCall()) {
                 case 0: tellText(expression(3)); ask("book", random.nextInt(3) == 0 ? 12 : some(books)); break;
                 case 1: tellText(expression(2)); ask("rule"); break;
                 case 2: ask("set", random.nextInt(3), some(random.nextBoolean() ? 3 : 12), random.nextInt(3) == 0 ? random.nextInt(105) - 2 : random.nextInt(7)); break;

@@ -1,8 +1,5 @@
-import java.io.ByteArrayOutputStream;
 import java.io.IOException;
 import java.io.InputStream;
-import java.io.OutputStream;
-import java.net.URI;
 import java.nio.charset.StandardCharsets;
 import java.nio.file.Files;
 import java.nio.file.Path;
@@ -18,14 +15,6 @@ import java.util.concurrent.TimeUnit;
 import java.util.concurrent.TimeoutException;
 import java.util.regex.Matcher;
 import java.util.regex.Pattern;
-import javax.tools.FileObject;
-import javax.tools.ForwardingJavaFileManager;
-import javax.tools.JavaCompiler;
-import javax.tools.JavaFileManager;
-import javax.tools.JavaFileObject;
-import javax.tools.SimpleJavaFileObject;
-import javax.tools.StandardJavaFileManager;
-import javax.tools.ToolProvider;
 
 /**
  * Shows of each test in Boundaries that it fails if its sentence does not hold: the class is broken at one place, so
@@ -105,12 +94,12 @@ public final class Broken {
         if (changed == null) {
             return "not one place " + broken.from() + " for " + broken.name();
         }
-        Map<String, byte[]> classes = compiled(changed);
+        Map<String, byte[]> classes = Compiling.compiled("BesideAnother", changed);
         if (classes == null) {
             return "can't be compiled: " + broken.name();
         }
         classes.putAll(tests);
-        Callable<Integer> run = () -> faults(broken, new Classes(classes));
+        Callable<Integer> run = () -> faults(broken, new Compiling.Classes(classes));
         ExecutorService alone = Executors.newSingleThreadExecutor(Broken::daemon);
         try {
             return alone.submit(run).get(SECONDS, TimeUnit.SECONDS) > 0 ? null : "not noticed: " + broken.name();
@@ -134,7 +123,7 @@ public final class Broken {
         return matcher.find() ? null : changed;
     }
 
-    private static int faults(Break broken, Classes classes) throws Exception {
+    private static int faults(Break broken, ClassLoader classes) throws Exception {
         Class<?> boundaries = classes.loadClass("Boundaries");
         Object found = method(boundaries, "faultsOf", int.class, String.class).invoke(null, broken.promise(), broken.words());
         return (Integer) found;
@@ -154,68 +143,6 @@ public final class Broken {
             }
         }
         return classes;
-    }
-
-    /** The classes of a changed source, or null. */
-    private static Map<String, byte[]> compiled(String source) throws IOException {
-        JavaCompiler compiler = ToolProvider.getSystemJavaCompiler();
-        JavaFileObject file = new SimpleJavaFileObject(URI.create("string:///BesideAnother.java"), JavaFileObject.Kind.SOURCE) {
-            @Override
-            public CharSequence getCharContent(boolean ignore) {
-                return source;
-            }
-        };
-        try (Memory memory = new Memory(compiler.getStandardFileManager(null, null, null))) {
-            boolean good = compiler.getTask(null, memory, diagnostic -> { }, List.of("-proc:none"), null, List.of(file)).call();
-            return good ? memory.classes() : null;
-        }
-    }
-
-    /** Keeps compiled classes as bytes. */
-    private static final class Memory extends ForwardingJavaFileManager<StandardJavaFileManager> {
-        private final Map<String, ByteArrayOutputStream> written = new HashMap<>();
-
-        Memory(StandardJavaFileManager manager) {
-            super(manager);
-        }
-
-        @Override
-        public JavaFileObject getJavaFileForOutput(JavaFileManager.Location where, String name, JavaFileObject.Kind kind, FileObject near) {
-            return new SimpleJavaFileObject(URI.create("memory:///" + name.replace('$', '-') + kind.extension), kind) {
-                @Override
-                public OutputStream openOutputStream() {
-                    written.put(name, new ByteArrayOutputStream());
-                    return written.get(name);
-                }
-            };
-        }
-
-        Map<String, byte[]> classes() {
-            Map<String, byte[]> classes = new HashMap<>();
-            written.forEach((name, bytes) -> classes.put(name, bytes.toByteArray()));
-            return classes;
-        }
-    }
-
-    /** The broken class and the tests of it, apart from all others. */
-    private static final class Classes extends ClassLoader {
-        private final Map<String, byte[]> bytes;
-
-        Classes(Map<String, byte[]> bytes) {
-            super(Broken.class.getClassLoader());
-            this.bytes = bytes;
-        }
-
-        @Override
-        protected Class<?> loadClass(String name, boolean resolve) throws ClassNotFoundException {
-            synchronized (getClassLoadingLock(name)) {
-                if (!bytes.containsKey(name)) {
-                    return super.loadClass(name, resolve);
-                }
-                Class<?> known = findLoadedClass(name);
-                return known != null ? known : defineClass(name, bytes.get(name), 0, bytes.get(name).length);
-            }
-        }
     }
 
     // ---------------------------------------------------------------- the breaks
